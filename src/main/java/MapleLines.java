@@ -986,8 +986,6 @@ public final class MapleLines {
 
         void clear() {
             size = 0;
-            tokens = 0;
-            textLength = 0;
         }
 
         void splitFirst(int length) {

@@ -6,6 +6,7 @@ public final class BatchTest {
         gradesByTheWorse();
         gradesByTheFirstThatHolds();
         gradesByWhatABatchHas();
+        gradesByWhatItHadWhenDrawn();
         gradesByTheRulesOfNow();
         holdsSixty();
         Check.end();
@@ -96,6 +97,22 @@ public final class BatchTest {
             "heat < 9999", "minutes = 0", "minutes < 9999", "look = 9 and heat < 9999"};
         for (String test : failing) {
             Check.due(test, gradeOf("grade 1 if " + test + ";", 9, 9), 4);
+        }
+    }
+
+    private static void gradesByWhatItHadWhenDrawn() {
+        MapleLines x = withBatch("grade 0 if strength = 800 and parts = 1 and day = 3;");
+        x.look(0, 0, 9);
+        x.look(0, 1, 9);
+        x.day(-10, 10);
+        x.let(200);
+        x.boil(1);
+        Check.due("whatever is in the pan now", x.batch(0, 4), 0);
+        String[] now = {"strength = 24", "parts = 164", "day = 4"};
+        for (String test : now) {
+            Check.rules(x, "grade 0 if " + test + ";");
+            x.boil(1);
+            Check.due(test, x.batch(0, 4), 4);
         }
     }
 

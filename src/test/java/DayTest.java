@@ -112,6 +112,7 @@ public final class DayTest {
         Check.due("five days", x.treeOf(0, 6), 1);
         x.day(-10, 10);
         Check.due("gives nothing any more", x.count(12), 0);
+        Check.due("and is foretold so", x.foretold(-10, 10, 0), 0);
         Check.due("and stays dry", x.treeOf(0, 6), 1);
         x.year();
         Check.due("no taps, none dry", x.treeOf(0, 6), 0);
@@ -147,7 +148,9 @@ public final class DayTest {
         Check.due("frost between", x.treeOf(0, 6), 0);
         x.year();
         x.tap(0, 60);
-        x.day(0, 5);
+        for (int day = 1; day <= 4; day++) {
+            x.day(0, 5);
+        }
         Check.due("days of two years", x.treeOf(0, 6), 0);
         x.day(-10, 10);
         Check.due("gives", x.treeOf(0, 5), 200);
@@ -198,6 +201,7 @@ public final class DayTest {
         Check.due("left counts too", x.foretold(-4, 4, 0), 128);
         Check.due("one day", x.foretold(-4, 4, 1), 1);
         Check.due("another frost", x.foretold(-5, 4, 0), -1);
+        Check.due("another of both", x.foretold(-5, 3, 0), -1);
         Check.due("another thaw", x.foretold(-4, 5, 1), -1);
         Check.due("what 2", x.foretold(-4, 4, 2), -1);
         Check.due("what -1", x.foretold(-4, 4, -1), -1);

@@ -42,6 +42,11 @@ public final class NodeTest {
         Check.due("length from the last", x.nodeOf(39, 8), 3900);
         Check.due("the last runs", x.nodeOf(39, 2), 1);
         Check.due("no node 40", x.nodeOf(40, 0), -1);
+        Check.due("pump", x.pump(60), true);
+        Check.due("leak", x.leak(1, 20), true);
+        Check.due("vacuum at the last", x.nodeOf(39, 3), 40);
+        x.gauge(39, 10);
+        Check.due("the last against the house", x.nodeOf(39, 5), 50);
     }
 
     private static void tellsOfTheHouse() {

@@ -16,6 +16,7 @@ public final class PanTest {
         testsEveryThing();
         draws();
         doesNotDraw();
+        drawsFromJust660ToJustBelow900();
         keepsHeatWhenDumped();
         Check.end();
     }
@@ -295,6 +296,29 @@ public final class PanTest {
         duePan("640 isn't drawn, nor does a later statement act", x, 1, 640, 8, 5, 0, 640);
         Check.due("it boils on", x.count(8), 60);
         Check.due("batches", x.count(9), 0);
+    }
+
+    private static void drawsFromJust660ToJustBelow900() {
+        String down = "in pan if parts = 80 then draw; in pan if parts = 84 then heat 1;"
+                + "in pan if parts = 104 then heat 6; in pan if parts = 108 then heat 7;"
+                + "in pan if parts > 115 then heat 9;";
+        int[] letIn = {2636, 2640, 3596, 3600};
+        int[] strengths = {659, 660, 899, 900};
+        for (int i = 0; i < letIn.length; i++) {
+            MapleLines x = withSap(7);
+            x.wood(10000);
+            Check.rules(x, down);
+            x.let(letIn[i]);
+            for (int minute = 0; minute < 200 && x.pan(0) > 80; minute++) {
+                x.boil(1);
+            }
+            Check.due("strength", x.pan(1), strengths[i]);
+            Check.due("burnt at " + strengths[i], x.pan(4), strengths[i] == 900 ? 1 : 0);
+            x.boil(1);
+            boolean drawn = strengths[i] == 660 || strengths[i] == 899;
+            Check.due("drawn at " + strengths[i], x.count(9), drawn ? 1 : 0);
+            Check.due("its parts", x.batch(0, 0), drawn ? 80 : -1);
+        }
     }
 
     private static void keepsHeatWhenDumped() {

@@ -8,6 +8,7 @@ public final class PoolTest {
         partsTheRestToTheLesserMember();
         partsByThisYear();
         partsManyCoins();
+        partsByTheLeastThatCame();
         tellsOfMembers();
         Check.end();
     }
@@ -133,6 +134,17 @@ public final class PoolTest {
         batchOf(x, 0);
         Check.due("a million", x.sell(0, 1000000), 1);
         dueCoins("a million", x, 233333, 666667, 100000);
+    }
+
+    private static void partsByTheLeastThatCame() {
+        MapleLines x = shares(1, 1);
+        batchOf(x, 1);
+        x.year();
+        x.tap(1, 90);
+        x.day(-1, 1);
+        Check.due("one part came", x.member(1, 0), 1);
+        Check.due("it is enough", x.sell(1, 9), 1);
+        dueCoins("all to its member", x, 0, 9);
     }
 
     private static void tellsOfMembers() {

@@ -10,6 +10,7 @@ public final class RulesTest {
         limitsStatementsAndTests();
         keepsRulesAtAFault();
         refusesOddLengths();
+        endsTokensWhereTheTextEnds();
         Check.end();
     }
 
@@ -67,10 +68,18 @@ public final class RulesTest {
         dueFault("  ;", 2);
         dueFault("inn pan", 0);
         dueFault("inpan if", 0);
+        dueFault("on pan", 0);
         dueFault("in in", 3);
         dueFault("in pan then", 7);
         dueFault("in pan if if", 10);
         dueFault("in pan if draw", 10);
+        dueFault("in pan if in > 1 then draw;", 10);
+        dueFault("in pan if pan > 1 then draw;", 10);
+        dueFault("in pan if 7 > 1 then draw;", 10);
+        dueFault("in pan if dayz > 1 then draw;", 10);
+        dueFault("in pan if day then draw;", 14);
+        dueFault("in pan if day > then draw;", 16);
+        dueFault("in pan if day > 1 and then draw;", 22);
         dueFault("in pan if strengths > 1", 10);
         dueFault("in pan if strengt > 1", 10);
         dueFault("in pan if day 1", 14);
@@ -95,6 +104,9 @@ public final class RulesTest {
         dueFault("grade 10 if", 6);
         dueFault("grade 00004 if", 6);
         dueFault("grade 4 then", 8);
+        dueFault("grade 4 if;", 10);
+        dueFault("grade 4 if look;", 15);
+        dueFault("grade 4 if look >;", 17);
         dueFault("grade 4 if day = 1 then", 19);
         dueFault("grade 4 if day = 1 and;", 22);
         dueFault("grade 4 if day = 1; draw", 20);
@@ -166,6 +178,19 @@ public final class RulesTest {
         Check.due("they hold", x.batch(0, 4), 1);
         Check.due("none", x.rules(0), 0);
         Check.due("none hold", x.batch(0, 4), 4);
+    }
+
+    private static void endsTokensWhereTheTextEnds() {
+        MapleLines x = new MapleLines();
+        Check.feed(x, "inner");
+        Check.due("in", x.rules(2), -1);
+        Check.due("more must come", x.fault(), 2);
+        Check.feed(x, "grade 1 if look = 12345;");
+        Check.due("a number cut", x.rules(22), -1);
+        Check.due("more must come", x.fault(), 22);
+        Check.feed(x, "grade 1 if look");
+        Check.due("a word cut", x.rules(4), -1);
+        Check.due("grad", x.fault(), 0);
     }
 
     private static void refusesOddLengths() {

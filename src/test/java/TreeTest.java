@@ -110,6 +110,8 @@ public final class TreeTest {
             int tree = hole % 50;
             Check.due("hole " + hole, x.tap(tree, hole / 50 * 60), hole / 50 + 1);
         }
+        x.day(-10, 10);
+        Check.due("the taps among them give", x.count(12), 150 * 100);
         x.year();
         Check.due("too near goes ahead of 300", x.tap(0, 0), -4);
         Check.due("no tree goes ahead of 300", x.tap(50, 0), -2);
