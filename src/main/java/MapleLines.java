@@ -1086,7 +1086,7 @@ public final class MapleLines {
         }
 
         int codeOf(int token) {
-            return hasToken(token) ? tokenCode[token] : NONE;
+            return token >= 0 && token < tokens ? tokenCode[token] : NONE;
         }
 
         int placeOf(int token) {

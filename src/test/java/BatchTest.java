@@ -82,7 +82,8 @@ public final class BatchTest {
     }
 
     private static void gradesByTheFirstThatHolds() {
-        String rules = "grade 3 if look > 80 and look < 90; grade 1 if look > 50;grade 0 if look > 80;";
+        String rules = "grade 3 if look > 80 and look < 90; grade 1 if look > 50;"
+                + "grade 0 if look > 80;";
         Check.due("the first", gradeOf(rules, 85, 85), 3);
         Check.due("the second", gradeOf(rules, 95, 95), 1);
         Check.due("a lower one doesn't win", gradeOf(rules, 100, 51), 1);

@@ -23,7 +23,7 @@ final class Check {
         }
     }
 
-    /** Feeds the text, filled up with blanks to whole twenties, and answers rules() of its length. */
+    /** Feeds the text, with blanks up to whole twenties, and answers rules() of its length. */
     static int rules(MapleLines x, String text) {
         feed(x, text);
         return x.rules(text.length());
@@ -36,7 +36,8 @@ final class Check {
         }
     }
 
-    private static int word(String text, int at) {
+    /** Four bytes of the text as a number, the highest first, with blanks behind its end. */
+    static int word(String text, int at) {
         int word = 0;
         for (int i = at; i < at + 4; i++) {
             word = word << 8 | (i < text.length() ? text.charAt(i) & 255 : ' ');

@@ -30,7 +30,7 @@ public final class LanguageTest {
         Check.end();
     }
 
-    /** A method is what a line that ends in ") {" opens, up to the first brace as far to the left. */
+    /** A method goes from a line that ends in ") {" to the first brace as far to the left. */
     private static void dueShortMethods(String source) {
         String[] lines = source.split("\n");
         for (int first = 0; first < lines.length; first++) {

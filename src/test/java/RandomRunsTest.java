@@ -112,7 +112,18 @@ public final class RandomRunsTest {
     }
 
     private void day() {
-        int low = random.nextInt(4) == 0 ? some(-30, 30) : some(-12, 1);
+        day(random.nextInt(4) == 0 ? some(-30, 30) : some(-12, 1));
+    }
+
+    private void warmDays() {
+        for (int i = random.nextInt(7); i > 0; i--) {
+            day(some(0, 3));
+        }
+        int tree = some(0, Math.max(0, y.count(3) - 1));
+        due("treeOf(" + tree + ",6)", x.treeOf(tree, 6), y.treeOf(tree, 6));
+    }
+
+    private void day(int low) {
         int high = random.nextInt(4) == 0 ? some(-30, 40) : some(2, 12);
         due("day(" + low + "," + high + ")", x.day(low, high), y.day(low, high));
         int what = some(0, 1);
@@ -146,10 +157,34 @@ public final class RandomRunsTest {
         due("member(" + member + ",1)", x.member(member, 1), y.member(member, 1));
     }
 
+    private String statement() {
+        boolean grading = random.nextBoolean();
+        StringBuilder text = new StringBuilder();
+        text.append(grading ? "grade " + some(0, 4) + " if " : "in pan if ");
+        int tests = random.nextInt(20) == 0 ? 4 : 1 + random.nextInt(3);
+        for (int i = 0; i < tests; i++) {
+            text.append(i == 0 ? "" : " and ").append(TOKENS[7 + random.nextInt(6)])
+                    .append(TOKENS[13 + random.nextInt(3)]).append(random.nextInt(60));
+        }
+        if (!grading) {
+            text.append(random.nextBoolean() ? "then draw" : "then heat " + some(0, 9));
+        }
+        return text.append(";").toString();
+    }
+
+    private String statements() {
+        StringBuilder text = new StringBuilder();
+        int most = random.nextInt(10) == 0 ? 17 : 4;
+        for (int i = 0; i < most && text.length() < 500; i++) {
+            text.append(most == 17 ? "grade 1 if look>" + i * 9 + ";" : statement());
+        }
+        return text.toString();
+    }
+
     private void rules() {
-        StringBuilder text = new StringBuilder(RULES[random.nextInt(RULES.length)]);
-        text.append(RULES[random.nextInt(RULES.length)]);
-        for (int i = random.nextInt(3); i > 0; i--) {
+        StringBuilder text = new StringBuilder(random.nextBoolean() ? statements()
+                : RULES[random.nextInt(RULES.length)] + RULES[random.nextInt(RULES.length)]);
+        for (int i = random.nextInt(3); i > 0 && text.length() > 0; i--) {
             int at = random.nextInt(text.length());
             int until = Math.min(text.length(), at + random.nextInt(6));
             String put = random.nextBoolean() ? TOKENS[random.nextInt(TOKENS.length)] : "";
@@ -162,10 +197,7 @@ public final class RandomRunsTest {
         int[] word = new int[5];
         for (int at = 0; at < text.length(); at += 20) {
             for (int i = 0; i < 5; i++) {
-                word[i] = 0;
-                for (int j = at + 4 * i; j < at + 4 * i + 4; j++) {
-                    word[i] = word[i] << 8 | (j < text.length() ? text.charAt(j) : ' ');
-                }
+                word[i] = Check.word(text, at + 4 * i);
             }
             due("feed", x.feed(word[0], word[1], word[2], word[3], word[4]), y.feed(word));
         }
@@ -176,8 +208,10 @@ public final class RandomRunsTest {
 
     private void callAny() {
         int kind = random.nextInt(100);
-        if (kind < 12) {
+        if (kind < 11) {
             day();
+        } else if (kind < 12) {
+            warmDays();
         } else if (kind < 32) {
             boil();
         } else if (kind < 46) {
