@@ -449,7 +449,7 @@ public final class MapleLines {
         /** One pass is enough: the NODE that another runs to has the lesser number. */
         private void settleVacuum() {
             for (int node = 1; node < size; node++) {
-                vacuum[node] = Math.max(0, vacuum[to[node]] - leak[node]);
+                vacuum[node] = Math.max(0, vacuumAt(to[node]) - leak[node]);
             }
         }
 

@@ -1,8 +1,27 @@
 /** What the project's tests share: due answers, and objects brought to a state that is wanted. */
 final class Check {
+    private static final long MOST_MILLISECONDS = 120000;
+
     private static int wrong = 0;
 
+    static {
+        Thread watch = new Thread(Check::endLate);
+        watch.setDaemon(true);
+        watch.start();
+    }
+
     private Check() {
+    }
+
+    /** A call that never ends is a wrong answer, too. */
+    private static void endLate() {
+        try {
+            Thread.sleep(MOST_MILLISECONDS);
+        } catch (InterruptedException told) {
+            return;
+        }
+        System.out.println("a call did not end");
+        Runtime.getRuntime().halt(1);
     }
 
     static void due(String call, long got, long want) {
