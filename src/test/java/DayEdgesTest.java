@@ -186,11 +186,12 @@ public final class DayEdgesTest {
         dueGives("4 DAYS of last YEAR", tapped, 1);
         Edges.State one = Edges.after(tapped, x -> x.day(0, 10));
         dueGives("and 1 of this", one, 1);
-        Edges.State five = one;
-        for (int day = 0; day < 4; day++) {
-            five = Edges.after(five, x -> x.day(0, 10));
+        Edges.State four = one;
+        for (int day = 1; day < 4; day++) {
+            four = Edges.after(four, x -> x.day(0, 10));
         }
-        dueGives("5 of this", five, 0);
+        dueGives("and 4 of this", four, 1);
+        dueGives("and 5 of this", Edges.after(four, x -> x.day(0, 10)), 0);
         Edges.State dryYear = Edges.after(Edges.after(() -> warm(0, 0, 0, 0, 0), MapleLines::year),
                 x -> x.tap(0, 90));
         dueGives("the YEAR behind a dry one", dryYear, 1);
@@ -299,6 +300,9 @@ public final class DayEdgesTest {
                 x -> x.day(0, 5));
         Edges.takes("nothing on 3 DAYS: 0", three, x -> x.foretold(5, 5, 0), 0);
         Edges.takes("by 1, of 3 DAYS", three, x -> x.foretold(5, 5, 1), 1);
+        Edges.State dry = Edges.after(() -> warm(0, 0, 0, 0, 0), x -> x.day(-1, 1));
+        Edges.takes("DRY TAPS give nothing: 0", dry, x -> x.foretold(-1, 1, 0), 0);
+        Edges.takes("DRY TAPS, by 1", dry, x -> x.foretold(-1, 1, 1), 1);
         Edges.State twoYears = Edges.after(Edges.after(() -> days(3), MapleLines::year),
                 x -> x.day(-1, 1));
         Edges.takes("3 by 4", twoYears, x -> x.foretold(-1, 1, 0), 3);

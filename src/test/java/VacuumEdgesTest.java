@@ -123,6 +123,17 @@ public final class VacuumEdgesTest {
         dueSuspect(0, 0, 0, 0, 0);
     }
 
+    private static void dueSuspectAcrossFour() {
+        MapleLines x = readings(50, 31, -1);
+        x.node(2, 1, 3, 0);
+        x.node(3, 1, 4, 0);
+        x.node(4, 1, 5, 0);
+        x.gauge(5, 30);
+        Check.due("the nearest that reads is four ahead", x.nodeOf(5, 5), 1);
+        x.gauge(1, -1);
+        Check.due("none reads but the house", x.nodeOf(5, 5), 20);
+    }
+
     private static void suspectsByTheNearestThatReads() {
         dueSuspect(50, -1, -1, 0, 0);
         dueSuspect(50, -1, 49, 0, 1);
@@ -130,6 +141,7 @@ public final class VacuumEdgesTest {
         dueSuspect(50, 20, -1, 30, 0);
         dueSuspect(50, 0, 30, 50, 0);
         dueSuspect(50, 31, 30, 19, 1);
+        dueSuspectAcrossFour();
         MapleLines x = readings(50, 31, 30);
         x.leak(1, 20);
         Check.due("a LEAK is no reading", x.nodeOf(2, 5), 1);
