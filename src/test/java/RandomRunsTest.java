@@ -44,7 +44,8 @@ public final class RandomRunsTest {
     private void due(String call, int got, int want) {
         calls++;
         told.append(call).append(' ');
-        if (got != want && !wrong) {
+        // What an object answers after its 512th call is free.
+        if (got != want && !wrong && calls <= CALLS) {
             wrong = true;
             Check.due(call, got, want);
         }
