@@ -332,5 +332,7 @@ public final class PanTest {
         x.let(50);
         x.boil(1);
         Check.due("boils on", x.pan(0), 30);
+        x.year();
+        Check.due("heat in the next year", x.pan(2), 5);
     }
 }

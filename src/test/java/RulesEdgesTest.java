@@ -23,6 +23,9 @@ public final class RulesEdgesTest {
         readsUpTo3Tests();
         takesTokensAsLongAsTheyGo();
         faultsAtTheEndIfMoreMustCome();
+        readsNothingOfTheTextAhead();
+        holdsNothingOfTheRulesAhead();
+        goesByTheLastOf16Statements();
         keepsTheRulesAtAFault();
         tellsTheLatestFault();
         Check.end();
@@ -291,6 +294,65 @@ public final class RulesEdgesTest {
             dueFault(cut + "\n\n", cut.length() + 2);
             dueFault("grade 0 if look=0;" + cut, 18 + cut.length());
             dueFault(cut + " ?", cut.length() + 1);
+        }
+    }
+
+    private static void readsNothingOfTheTextAhead() {
+        String[] whole = {"in pan if day > 1 and parts = 2 then heat 3;",
+            "grade 1 if look < 2 and day = 99 and parts > 1234;", "in pan if look = 1 then draw;"};
+        for (String text : whole) {
+            MapleLines x = new MapleLines();
+            Check.due("rules of \"" + text + "\"", Check.rules(x, text), 1);
+            for (int end = text.length() - 1; end > 0; end--) {
+                String cut = text.substring(0, end);
+                MapleLines y = new MapleLines();
+                Check.rules(y, cut);
+                Check.due("rules of \"" + cut + "\", cut", Check.rules(x, cut), -1);
+                Check.due("fault of \"" + cut + "\", cut", x.fault(), y.fault());
+            }
+            Check.due("the RULES stay", x.count(10), 1);
+        }
+    }
+
+    private static MapleLines graded(String... texts) {
+        MapleLines x = Check.boilingBush(1, "");
+        Check.drawBatch(x, 40);
+        x.look(0, 0, 50);
+        x.look(0, 1, 50);
+        for (String text : texts) {
+            Check.rules(x, text);
+        }
+        return x;
+    }
+
+    private static void holdsNothingOfTheRulesAhead() {
+        String many = "grade 1 if look = 50;".repeat(16);
+        String never = "grade 2 if look = 51;";
+        String faulty = "grade 3 if look = 50;".repeat(15) + "grade";
+        String[][] runs = {{many, never}, {many, many, never}, {many, never, never},
+            {many, faulty, never}, {faulty, never}, {many, faulty, faulty, never},
+            {many, ""}, {many, many, ""}, {many, faulty, "", never}};
+        for (String[] run : runs) {
+            Check.due("the GRADE after " + run.length + " texts", graded(run).batch(0, 4), 4);
+        }
+        Check.due("the first text stays", graded(many, faulty, faulty).batch(0, 4), 1);
+        String heats = "in pan if day > 0 then heat 7;";
+        MapleLines x = graded(heats.repeat(3), heats.repeat(3), "in pan if day = 0 then heat 8;");
+        x.let(40);
+        x.boil(1);
+        Check.due("HEAT of the texts ahead", x.pan(2), 0);
+    }
+
+    private static void goesByTheLastOf16Statements() {
+        String grades = "grade 1 if look = 51;".repeat(15);
+        Check.due("the 16th", graded(grades + "grade 3 if look = 50;").batch(0, 4), 3);
+        Check.due("none of 16", graded(grades + "grade 3 if look = 51;").batch(0, 4), 4);
+        String heats = "in pan if day=0 then heat 1;".repeat(15);
+        for (int day = 0; day <= 1; day++) {
+            MapleLines x = graded(heats + "in pan if day=" + day + " then heat 9;");
+            x.let(40);
+            Check.due("boil", x.boil(1), 1);
+            Check.due("16 statements, of which the last holds " + day, x.pan(2), day * 9);
         }
     }
 
