@@ -1,9 +1,9 @@
-import java.io.File;
 import java.io.IOException;
 import java.net.URL;
 import java.net.URLClassLoader;
 import java.nio.file.Files;
 import java.nio.file.Path;
+import java.nio.file.attribute.PosixFilePermission;
 import java.util.ArrayList;
 import java.util.Comparator;
 import java.util.List;
@@ -11,7 +11,6 @@ import java.util.TreeSet;
 import java.util.regex.Matcher;
 import java.util.regex.Pattern;
 import java.util.stream.Stream;
-import javax.tools.ToolProvider;
 
 /** README.md against the class and the tests as they stand. Run from the project's folder. */
 public final class ReadmeTest {
@@ -57,8 +56,8 @@ public final class ReadmeTest {
         Path source = Files.createDirectory(folder.resolve("told")).resolve("Sugaring.java");
         Files.writeString(source,
                 TOLD.matcher(sample).replaceAll("ReadmeTest.told(\"$1\", $1, $3);$2"));
-        int failed = ToolProvider.getSystemJavaCompiler().run(null, null, null, "--release", "17",
-                "-Xlint:all", "-Werror", "-cp", System.getProperty("java.class.path"),
+        int failed = run(Path.of(""), "javac", "--release", "17", "-Xlint:all", "-Werror", "-cp",
+                System.getProperty("java.class.path"), "-d", source.getParent().toString(),
                 source.toString());
         Check.due("compiling the sample", failed, 0);
         if (failed != 0) {
@@ -106,10 +105,13 @@ public final class ReadmeTest {
         Check.due("README.md says to type .ci/run", typed.remove(".ci/run\n"), true);
         Check.due("other commands", typed.size(), 2);
         for (String commands : typed) {
-            Process shell = new ProcessBuilder("sh", "-e", "-c", commands)
-                    .directory(place.toFile()).inheritIO().start();
-            Check.due("README.md: " + commands, shell.waitFor(), 0);
+            Check.due("README.md: " + commands, run(place, "sh", "-e", "-c", commands), 0);
         }
+    }
+
+    private static int run(Path place, String... command) throws Exception {
+        return new ProcessBuilder(command).directory(place.toAbsolutePath().toFile()).inheritIO()
+                .start().waitFor();
     }
 
     private static void copyFile(Path file, Path into) throws IOException {
@@ -164,9 +166,10 @@ public final class ReadmeTest {
 
     /** The command that compiles the tests is the same in README.md and .ci/run. */
     private static void dueRun(String readme) throws IOException {
-        File run = new File(".ci/run");
-        Check.due(".ci/run can be run", run.canExecute(), true);
-        String script = Files.readString(run.toPath());
+        Path run = Path.of(".ci/run");
+        Check.due(".ci/run can be run", Files.getPosixFilePermissions(run)
+                .contains(PosixFilePermission.OWNER_EXECUTE), true);
+        String script = Files.readString(run);
         Check.due("the class in .ci/run", script.contains("\nclass=" + CLASS + "\n"), true);
         Matcher compile = Pattern.compile("(?m)^javac .* src/test/.*$").matcher(readme);
         boolean found = compile.find();
